@@ -33,6 +33,7 @@ public final class AheadTest {
         DUE.is("times(0, 1, 1, 21)", x.times(0, 1, 1, 21), -1);
         DUE.is("times(0, 0, 1, 21): NONE is looked at first", x.times(0, 0, 1, 21), -1);
         DUE.is("times(0, 0, 1, 1): it is there", x.times(0, 0, 1, 1), -2);
+        DUE.is("times(0, 1, 0, 20)", x.times(0, 1, 0, 20), 0);
         DUE.is("times(0, 1, 200, 20)", x.times(0, 1, 200, 20), 20);
         DUE.is("times(0, 1, 3, 20)", x.times(0, 1, 3, 20), 0);
         DUE.is("times(0, 1, 9, 20)", x.times(0, 1, 9, 20), 20);

@@ -15,6 +15,7 @@ public final class CratesTest {
         DUE.is("list(0, 1, -1)", x.list(0, 1, -1), -1);
         DUE.is("list(0, 2, 2)", x.list(0, 2, 2), -1);
         DUE.is("list(0, 2, -1)", x.list(0, 2, -1), -1);
+        DUE.is("list(0, 3, 0)", x.list(0, 3, 0), -1);
         DUE.is("count(10)", x.count(10), 0);
         DUE.is("list(0, 0, 9)", x.list(0, 0, 9), 0);
         DUE.is("list(1, 1, 99)", x.list(1, 1, 99), 1);

@@ -40,6 +40,10 @@ public final class HeldTest {
         DUE.is("hold(0)", x.hold(0), true);
         DUE.is("hold(2)", x.hold(2), true);
         DUE.is("count(11)", x.count(11), 3);
+        for (int slot : new int[] {-1, 3, 32, 33, -32, Integer.MIN_VALUE, Integer.MAX_VALUE}) {
+            DUE.is("no such one: restore(" + slot + ")", x.restore(slot), false);
+            DUE.is("no such one: hold(" + slot + ")", x.hold(slot), false);
+        }
         DUE.is("it stays there", x.restore(1), true);
         DUE.is("count(3)", x.count(3), 2);
         DUE.is("restore(2)", x.restore(2), true);

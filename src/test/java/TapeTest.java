@@ -126,6 +126,11 @@ public final class TapeTest {
         fault(terms + "term b 1<2;", 2, terms.length());
         fault("trip = ((((((1))))));", 0, -1);
         fault("trip = (((((((1)))))));", 2, 13);
+        fault("trip = if ((((((1)))))) < ((((((1)))))) then ((((((1)))))) else ((((((1))))));", 0, -1);
+        fault("trip = if (((((((1))))))) < 2 then 1 else 2;", 2, 16);
+        fault("trip = if 1 < (((((((1))))))) then 1 else 2;", 2, 20);
+        fault("trip = if 1 < 2 then (((((((1))))))) else 2;", 2, 27);
+        fault("trip = if 1 < 2 then 1 else (((((((1)))))));", 2, 34);
         fault("trip = ((((((1)))))) + ((((((2))))));", 0, -1);
         fault("trip = ((((((1))))) + (((2)))) + (1;", 1, 35);
         fault(A + "work b a a 1 1; term b ((((((1 < 2", 1, 43);
@@ -172,6 +177,10 @@ public final class TapeTest {
         fault("couriers 4;", 5, 9);
         fault("couriers 3;", 0, -1);
         fault("seed 9999;", 0, -1);
+        fault("seed 0;", 0, -1);
+        fault("late 0;", 0, -1);
+        fault("couriers 1;", 0, -1);
+        fault("house a 0 0; work b a a 0 0;", 0, -1);
         fault("late 101; late 1;", 5, 5);
         fault("house a 10 1; house a 1 1;", 5, 8);
         fault(A + "house a 10 1;", 3, 18);
@@ -179,6 +188,43 @@ public final class TapeTest {
         fault("house a 10 1; trip = (((((((1)))))));", 2, 27);
         fault(A + "work b c a 10 100;", 4, 19);
         fault("trip = 9999;", 0, -1);
+    }
+
+    /** What the tape has had behind its end does not count. */
+    private static void nothingBehindTheEnd() {
+        LentPictures x = new LentPictures();
+        Due.feed(x, "house a 1 1; houses");
+        x.back(1);
+        DUE.is("read() of a word cut off", x.read(), 1);
+        DUE.is("place() of a word cut off", x.place(), 18);
+        Due.feed(x, "seed 100000;");
+        x.back(6);
+        DUE.is("read() of a number cut off", x.read(), 1);
+        DUE.is("place() of a number cut off", x.place(), 6);
+        Due.feed(x, " ".repeat(1987) + "house a 1 1; ");
+        DUE.is("count(8)", x.count(8), 2000);
+        DUE.is("read() of 2,000 bytes", x.read(), 0);
+        Due.feed(x, " ".repeat(1995) + "house");
+        DUE.is("read() with a word at the end", x.read(), 1);
+        DUE.is("place() at the end", x.place(), 2000);
+        Due.feed(x, " ".repeat(1994) + "late 7");
+        DUE.is("read() with a number at the end", x.read(), 1);
+        DUE.is("place() at the end", x.place(), 2000);
+    }
+
+    private static void names() {
+        String names = "house a 1 1; house aa 1 1; house z 1 1; house az 1 1; house zzzzzzzz 1 1;";
+        fault(names, 0, -1);
+        fault(names + "work aaaaaaaa az aa 1 1; work aaaaaaa z zzzzzzzz 1 1; work zzzzzzza a a 1 1;", 0, -1);
+        fault(names + "work b zzzzzzz a 1 1;", 4, names.length() + 7);
+        fault(names + "work zzzzzzzz a a 1 1;", 3, names.length() + 5);
+        LentPictures x = Due.told(names + "work aaaaaaaa az aa 0 0; work b z zzzzzzzz 1 1; term b 1 < 2; term aaaaaaaa 1 < 2;");
+        DUE.is("owner az", x.work(0, 0), 3);
+        DUE.is("in aa", x.work(0, 1), 1);
+        DUE.is("owner z", x.work(1, 0), 2);
+        DUE.is("in zzzzzzzz", x.work(1, 1), 4);
+        DUE.is("terms of b", x.work(1, 7), 1);
+        DUE.is("terms of aaaaaaaa", x.work(0, 7), 2);
     }
 
     /** A text takes the place of all that was told ahead, laws and numbers too. */
@@ -190,6 +236,12 @@ public final class TapeTest {
         x.days(3);
         x.list(0, 0, 3);
         x.hold(0);
+        String again = "house c 1 1; house d 2 2; work e c d 3 40; term e 5 < 4; trip = 7; likes = 8; late 100; couriers 3;"
+            + "seed 5;";
+        DUE.is("read again", Due.tell(x, again), 0);
+        x.send(0, 0);
+        x.list(0, 0, 3);
+        x.hold(1);
         DUE.is("read again", Due.tell(x, "house a 1 1; house b 2 2; work c a b 3 40; term c 5 < 4;"), 0);
         int[] want = {2, 1, 1, 0, 0, 0, 0, 1, 0, 0, 0, 0, 0};
         for (int what = 0; what < want.length; what++) {
@@ -202,6 +254,18 @@ public final class TapeTest {
         DUE.is("LIKES if not told", x.likes(0, 0), 40);
         DUE.is("LATE if not told", x.send(0, 0), 3);
         DUE.is("restore(0)", x.restore(0), false);
+        DUE.is("restore(1)", x.restore(1), false);
+        DUE.is("COURIERS if not told", Due.tell(x, "house a 1 1; house b 1 1; work c a b 1 1; work d a b 1 1;"), 0);
+        DUE.is("COURIERS if not told", x.soonest(), 6);
+        DUE.is("SEED told", Due.tell(x, "house a 1 1; house b 1 1; work c a b 1 1; late 50; seed 7;"), 0);
+        int withSeven = x.times(0, 0, 3, 20);
+        DUE.is("SEED 0 told", Due.tell(x, "house a 1 1; house b 1 1; work c a b 1 1; late 50; seed 0;"), 0);
+        int withNone = x.times(0, 0, 3, 20);
+        DUE.is("SEED told", Due.tell(x, "house a 1 1; house b 1 1; work c a b 1 1; late 50; seed 7;"), 0);
+        DUE.is("SEED told", Due.tell(x, "house a 1 1; house b 1 1; work c a b 1 1; late 50; seed 7;"), 0);
+        DUE.is("SEED not told", Due.tell(x, "house a 1 1; house b 1 1; work c a b 1 1; late 50;"), 0);
+        DUE.is("SEED if not told", x.times(0, 0, 3, 20), withNone);
+        DUE.is("another SEED is another one", withSeven != withNone, true);
         DUE.is("the last ones told", Due.tell(x, "late 100; trip = 9; house a 1 1; house b 1 1; work c a b 1 1; trip = 4;"
             + "late 0; likes = 1; likes = 2; couriers 3; couriers 1;"), 0);
         DUE.is("the last TRIP and LATE", x.send(0, 0), 4);
@@ -228,6 +292,8 @@ public final class TapeTest {
         room();
         tokens();
         meanings();
+        nothingBehindTheEnd();
+        names();
         inPlace();
         placeStays();
         DUE.end();

@@ -86,11 +86,18 @@ final class Texts {
         int houses = 1 + to(mostHouses);
         int works = to(4) == 0 ? to(mostWorks + 1) : mostWorks - to(2);
         List<String> tells = new ArrayList<>();
+        boolean tight = to(4) == 0;
+        int roomier = to(houses);
         for (int h = 0; h < houses; h++) {
-            tells.add("house h" + (char) ('a' + h) + " " + to(10) + " " + (to(4) == 0 ? to(10) : 1 + to(3)) + ";");
+            int needed = (works - h + houses - 1) / houses + (h == roomier ? 1 : 0);
+            int walls = tight ? needed : to(4) == 0 ? to(10) : 1 + to(3);
+            tells.add("house h" + (char) ('a' + h) + " " + to(10) + " " + walls + ";");
         }
+        int further = to(houses);
         for (int w = 0; w < works; w++) {
-            tells.add("work w" + (char) ('a' + w) + " h" + (char) ('a' + to(houses)) + " h" + (char) ('a' + to(houses)) + " "
+            int owner = tight ? w % houses : to(houses);
+            int start = tight ? (w + further) % houses : to(houses);
+            tells.add("work w" + (char) ('a' + w) + " h" + (char) ('a' + owner) + " h" + (char) ('a' + start) + " "
                 + to(to(2) == 0 ? 3 : 10) + " " + to(100) + ";");
         }
         for (int terms = works == 0 ? 0 : to(7); terms > 0; terms--) {

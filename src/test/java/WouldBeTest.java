@@ -36,6 +36,8 @@ public final class WouldBeTest {
         DUE.is("day 0 again: hangings()", terms.hangings(), 0);
         terms.restore(0);
         DUE.is("restored: hangings()", terms.hangings(), 4);
+        Due.tell(terms, "house a 0 9; work x a a 1 1;");
+        DUE.is("another text: hangings()", terms.hangings(), 1);
         LentPictures none = Due.told("house a 1 1;");
         DUE.is("no works: hangings()", none.hangings(), 1);
         DUE.is("no works: nearest(-1)", none.nearest(-1), 0);
@@ -123,6 +125,49 @@ public final class WouldBeTest {
         DUE.is("nothing: home(true)", new LentPictures().home(true), 0);
     }
 
+    /** Each work, from each house to each other one, the others at their owners'. */
+    private static void oneTripEach() {
+        String houses = "house a 0 9; house b 0 9; house c 0 9; house d 0 9; house e 0 9;";
+        for (int work = 0; work < 6; work++) {
+            for (int trip = 0; trip < 25; trip++) {
+                StringBuilder text = new StringBuilder(houses);
+                for (int other = 0; other < 6; other++) {
+                    int owner = other == work ? trip / 5 : other % 5;
+                    int start = other == work ? trip % 5 : other % 5;
+                    text.append(" work w").append((char) ('a' + other)).append(' ').append((char) ('a' + owner)).append(' ')
+                        .append((char) ('a' + start)).append(" 1 1;");
+                }
+                DUE.is("work " + work + " by trip " + trip, Due.told(text.toString()).home(true), trip / 5 == trip % 5 ? 0 : 1);
+            }
+        }
+    }
+
+    /** What was found for one text, or one day, does not stay for the next. */
+    private static void homesAnew() {
+        LentPictures x = Due.told("house a 0 2; house b 5 2; work x a b 1 1; work y b a 1 1; term x day < 1 + many;");
+        DUE.is("home(false)", x.home(false), 2);
+        DUE.is("home(true)", x.home(true), 2);
+        x.days(2);
+        DUE.is("day 2: home(false)", x.home(false), 2);
+        DUE.is("day 2: home(true)", x.home(true), -2);
+        x.undo();
+        DUE.is("day 0: home(true)", x.home(true), 2);
+        Due.tell(x, "house a 0 1; house b 5 1; work x a b 1 1; work y b a 1 1;");
+        DUE.is("no room: home(false)", x.home(false), -2);
+        DUE.is("no room: home(true)", x.home(true), -2);
+        Due.tell(x, "house a 0 9; house b 5 9; work u a a 1 1; work v a a 1 1; work w a a 1 1; work x a a 1 1;"
+            + "work y a a 1 1; work z a a 1 1;");
+        for (int work = 0; work < 6; work++) {
+            x.send(work, 1);
+            DUE.is("so many under way: nearest(-1)", x.nearest(-1), work + 1);
+        }
+        DUE.is("all under way: nearest(5)", x.nearest(5), 0);
+        x.days(3);
+        DUE.is("all there: nearest(-1)", x.nearest(-1), 0);
+        DUE.is("all there: nearest(5)", x.nearest(5), 1);
+        DUE.is("all there: home(true)", x.home(true), 6);
+    }
+
     private static void swaps() {
         String houses = "house a 0 9; house b 9 9; work x a a 1 10; work y a b 2 20; work z a a 3 30; work u a b 4 40;";
         LentPictures x = Due.told(houses + "likes = if which < 1 then kind * 10 else 90 - kind * 10;");
@@ -150,6 +195,23 @@ public final class WouldBeTest {
         DUE.is("good for one only: swaps(2)", one.swaps(2), -2);
         LentPictures held = Due.told(houses + "likes = 99 + kind;");
         DUE.is("held to 99: swaps(-1)", held.swaps(-1), 0);
+        LentPictures little = Due.told(houses + "likes = if which < 1 then 30 + kind / 4 else 30 - kind / 4;");
+        DUE.is("a gain of 1 each: swaps(-1)", little.swaps(-1), 2);
+        DUE.is("a gain of 1 each: swaps(0)", little.swaps(0), 0);
+        DUE.is("a gain of 1 each: swaps(1)", little.swaps(1), 3);
+        DUE.is("a gain of 1 each: swaps(2)", little.swaps(2), 2);
+        LentPictures even = Due.told(houses + "likes = if which < 1 then kind else 50;");
+        DUE.is("the other one gains nothing: swaps(-1)", even.swaps(-1), 0);
+        LentPictures odd = Due.told(houses + "likes = if which < 1 then 50 else 9 - kind;");
+        DUE.is("the one gains nothing: swaps(-1)", odd.swaps(-1), 0);
+        LentPictures away = Due.told("house a 0 9; house b 9 9; work x a a 1 10; work y a b 2 20;"
+            + "likes = if which < 1 then kind else 9 - kind;");
+        DUE.is("both there: swaps(-1)", away.swaps(-1), 1);
+        away.send(0, 1);
+        DUE.is("the first under way: swaps(-1)", away.swaps(-1), 0);
+        away.undo();
+        away.send(1, 0);
+        DUE.is("the second under way: swaps(-1)", away.swaps(-1), 0);
         LentPictures kin = Due.told("house a 0 9; house b 9 9; work x a a 1 1; work y a a 2 1; work z a b 2 1; work u a b 1 1;"
             + "likes = same * 10 + many;");
         DUE.is("in place of the other one: swaps(-1)", kin.swaps(-1), 2);
@@ -207,6 +269,8 @@ public final class WouldBeTest {
         nearestOfAlike();
         quarrels();
         homes();
+        oneTripEach();
+        homesAnew();
         swaps();
         backs();
         soonest();
