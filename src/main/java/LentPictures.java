@@ -221,10 +221,9 @@ public final class LentPictures {
     public int bad() {
         int standing = standing();
         for (int ahead = 0; ahead <= AHEAD; ahead++) {
-            int day = state.today() + ahead;
-            scene.look(told, state, day);
+            scene.look(told, state, state.today() + ahead);
             if (!scene.allWell(standing)) {
-                return day;
+                return ahead;
             }
         }
         return NEITHER;

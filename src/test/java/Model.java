@@ -679,7 +679,7 @@ final class Model {
         Now then = now.copy();
         for (int i = 0; i <= 200; i++) {
             if (!isWell(then)) {
-                return then.day;
+                return i;
             }
             then.go(then.day + 1);
         }

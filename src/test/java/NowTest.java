@@ -251,16 +251,16 @@ public final class NowTest {
         x.days(49);
         DUE.is("day 49: bad()", x.bad(), -2);
         x.days(1);
-        DUE.is("day 50: bad() is a day", x.bad(), 250);
+        DUE.is("day 50: bad() is told from now", x.bad(), 200);
         x.send(0, 1);
         DUE.is("under way: well()", x.well(), true);
-        DUE.is("two in one: bad()", x.bad(), 57);
+        DUE.is("two in one: bad()", x.bad(), 7);
         x.days(7);
         DUE.is("day 57: well()", x.well(), false);
-        DUE.is("day 57: bad()", x.bad(), 57);
+        DUE.is("day 57: bad()", x.bad(), 0);
         x.send(1, 0);
         DUE.is("gone: well()", x.well(), true);
-        DUE.is("gone: bad()", x.bad(), 250);
+        DUE.is("gone: bad()", x.bad(), 193);
         x.lift(0, true);
         DUE.is("lifted: bad()", x.bad(), -2);
     }
