@@ -44,11 +44,11 @@ final class Doc {
         return found;
     }
 
-    /** What no test has quoted of the terms and of the promises. */
+    /** What no test has quoted of the first lines, of the terms and of the promises. */
     List<String> unquoted() {
         List<String> rest = new ArrayList<>();
         sections.forEach((title, section) -> {
-            if (title.equals("Terms") || title.startsWith("Promise")) {
+            if (title.equals("What it is") || title.equals("Terms") || title.startsWith("Promise")) {
                 StringBuilder left = new StringBuilder();
                 for (int i = 0; i < section.length(); i++) {
                     left.append(quoted.get(title).get(i) ? '\n' : section.charAt(i));

@@ -1,4 +1,4 @@
-/** Sentences of "What it is", of "Terms", IV (crates), and of promises 30 to 37. */
+/** How long an object is used, "Terms", IV (crates), and promises 30 to 37. */
 final class HeldSentences {
     private static final String TERMS = "Terms";
     private static final String THREE = "house a 1 1; house b 1 1; work x a a 1 10; work y a b 1 20; work z b b 9 99;";
@@ -37,7 +37,7 @@ final class HeldSentences {
     // ---- how long an object is used
 
     private void calls() {
-        q.by("What it is", "An object is used for at most 512 calls after it has been made;");
+        q.by("What it is", "An object is used for at most 512 calls after it has been made; what later calls answer is free.");
         LentPictures days = new LentPictures();
         for (int i = 1; i <= 511; i++) {
             q.is("days " + i, days.days(99), 99L * i);

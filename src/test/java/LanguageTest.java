@@ -15,6 +15,7 @@ import java.util.regex.Pattern;
 public final class LanguageTest {
     private static final Due DUE = new Due("LanguageTest");
     private static final Path SOURCE = Path.of("src/main/java/LentPictures.java");
+    private static final Path DOCUMENT = Path.of("../shared/DOC.md");
     private static final String FACE = """
         public int feed(int a, int b, int c, int d, int e);
         public int back(int n);
@@ -69,6 +70,19 @@ public final class LanguageTest {
             names.add(line.replaceAll("\\(.*", "").replaceAll(".* ", ""));
         }
         return names;
+    }
+
+    /** The face that this test has is the one that the document has, line by line. */
+    private static void faceOfDocument() throws Exception {
+        String page = Files.readString(DOCUMENT);
+        Matcher m = Pattern.compile("(?s)```java\n(.*?)```").matcher(page);
+        DUE.is("the document has a face", m.find(), true);
+        StringBuilder want = new StringBuilder("public final class LentPictures {\n");
+        want.append("    public static final int NONE = -1;\n    public LentPictures();\n");
+        for (String line : FACE.strip().split("\n")) {
+            want.append("    ").append(line.strip()).append('\n');
+        }
+        DUE.is("the face of the document", m.group(1).equals(want.append("}\n").toString()), true);
     }
 
     private static void face() {
@@ -147,6 +161,7 @@ public final class LanguageTest {
     }
 
     public static void main(String[] args) throws Exception {
+        faceOfDocument();
         face();
         classesInside();
         source();

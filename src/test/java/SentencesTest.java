@@ -10,6 +10,7 @@ public final class SentencesTest {
         Due due = new Due("SentencesTest");
         Doc doc = Files.isReadable(DOCUMENT) ? new Doc(DOCUMENT) : null;
         Quoted q = new Quoted(due, doc);
+        new FirstSentences(q).all();
         new TextSentences(q).all();
         new LawSentences(q).all();
         new WouldBeSentences(q).all();
